@@ -258,7 +258,7 @@ public final class LinenHouse {
         if (!isMember(member) || !within(what, 2)) {
             return refusedLong(BAD);
         }
-        return lowest(shares.turning(member), FACTORIAL[roll.n], what);
+        return lowest(shares.turning(member), factorial(roll.n), what);
     }
 
     public int ring() {
@@ -542,6 +542,10 @@ public final class LinenHouse {
         return warm < 0 ? 0 : warm;
     }
 
+    private static int factorial(int n) {
+        return n >= 0 && n < FACTORIAL.length ? FACTORIAL[n] : 1;
+    }
+
     /** The part above (what = 0) or below of a fraction in lowest terms. */
     private static long lowest(long above, long below, int what) {
         long divisor = above, rest = below;
@@ -695,8 +699,10 @@ public final class LinenHouse {
             if ((orders >> order & 1) == 1) {
                 tryOrder(member, order);
                 int k = chamber.carried(night, tried, jar, NONE) + 1;
-                alike[k]++;
-                greatest = Math.max(greatest, alike[k]);
+                if (within(k, alike.length)) {
+                    alike[k]++;
+                    greatest = Math.max(greatest, alike[k]);
+                }
             }
         }
         return greatest;
@@ -792,7 +798,8 @@ public final class LinenHouse {
         }
 
         int weightOf(int member) {
-            return within(member, n) && within(sort[member], SORTS) ? weight[sort[member]] : 0;
+            int of = member >= 0 && member < n ? sort[member] : NONE;
+            return of >= 0 && of < SORTS ? weight[of] : 0;
         }
 
         int weightOfAll() {
@@ -977,7 +984,7 @@ public final class LinenHouse {
             layAtFirst();
             for (int f = 0; f < folds.n; f++) {
                 int m = folds.member[f], ahead = folds.night[f];
-                if (f != without && m < roll.n && ahead <= night && ahead >= since[m]) {
+                if (f != without && within(m, roll.n) && ahead <= night && ahead >= since[m]) {
                     shelf[m] = folds.shelf[f];
                     since[m] = ahead;
                 }
@@ -997,15 +1004,17 @@ public final class LinenHouse {
             speaker = NONE;
             for (int m = 0; m < roll.n; m++) {
                 vote[m] = rather(order[m], first, other) ? 0 : 1;
-                shelfLead[shelf[m]] += 1 - 2 * vote[m];
+                if (within(shelf[m], SHELVES)) {
+                    shelfLead[shelf[m]] += 1 - 2 * vote[m];
+                }
                 if (speaker == NONE || shelf[m] < shelf[speaker]) {
                     speaker = m;
                 }
             }
             for (int m = 0; m < roll.n; m++) {
-                int others = shelfLead[shelf[m]];
-                if (warmth(shelf[m], jar) < WARM_ENOUGH && others != 0) {
-                    vote[m] = others > 0 ? 0 : 1;
+                int most = within(shelf[m], SHELVES) ? shelfLead[shelf[m]] : 0;
+                if (warmth(shelf[m], jar) < WARM_ENOUGH && most != 0) {
+                    vote[m] = most > 0 ? 0 : 1;
                 }
             }
         }
@@ -1015,7 +1024,7 @@ public final class LinenHouse {
             firsts = 0;
             lead = 0;
             for (int m = 0; m < roll.n; m++) {
-                int weight = byWeight ? roll.weight[roll.sort[m]] : 1;
+                int weight = byWeight ? roll.weightOf(m) : 1;
                 firsts += 1 - vote[m];
                 lead += vote[m] == 0 ? weight : -weight;
             }
@@ -1048,7 +1057,7 @@ public final class LinenHouse {
                 boolean joins = (ahead >> member & 1) == 0;
                 if (joins && 2 * weight <= all && 2 * (weight + own) > all) {
                     int many = Integer.bitCount(ahead);
-                    orders += FACTORIAL[many] * FACTORIAL[roll.n - 1 - many];
+                    orders += factorial(many) * factorial(roll.n - 1 - many);
                 }
             }
             return orders;
