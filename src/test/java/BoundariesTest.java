@@ -296,11 +296,10 @@ public final class BoundariesTest {
       String well = text == 0 ? EIGHT : TEN;
       for (int place = 0; place < well.length(); place++) {
         String before = well.substring(0, place);
-        LinenHouse x = new LinenHouse();
-        typeAll(x, text, before);
+        LinenHouse x = null;
         int step = text == 0 ? 6 : 3, lastOfOne = text == 0 ? 4 : 2;
         for (int b = 0; b < 256; b++) {
-          if (b == 128) {
+          if (b % 64 == 0) {
             x = new LinenHouse();
             typeAll(x, text, before);
           }
@@ -847,7 +846,7 @@ public final class BoundariesTest {
   /** By how many more the first of a pair is rather had. */
   private static int most(String[] orders, String pair) {
     int lead = 0;
-    for (String order : orders) lead += order.indexOf(pair.charAt(0)) < order.indexOf(pair.charAt(1)) ? 1 : -1;
+    for (String order : orders) lead += 1 - 2 * rather(order, pair);
     return lead;
   }
 
@@ -957,6 +956,34 @@ public final class BoundariesTest {
     x.seen(0, 3);
     due("26 would(0), no order", x.would(0), 0);
     due("27 ask(0), no order", x.ask(0), 0);
+    String[][] nights = {{"ab", "ac", "bc"}, {"ab", "bc", "ac"}, {"ac", "ab", "bc"}, {"ac", "bc", "ab"}, {"bc", "ab", "ac"}, {"bc", "ac", "ab"}};
+    for (String[] pairs : nights) for (int k = 0; k < 27; k++) askOf(pairs, k % 3, k / 3 % 3, k / 9);
+  }
+
+  /** One member, three pairs; of each it was seen that the first (0) or the other (1) carried, or it was not seen (2). */
+  private static void askOf(String[] pairs, int... carried) {
+    LinenHouse x = house("s0abc", pairs[0] + "1" + pairs[1] + "1" + pairs[2] + "1");
+    int bits = 63, ask = 0, least = 7;
+    for (int n = 0; n < 3; n++) {
+      if (carried[n] == 2) continue;
+      x.seen(n, pairs[n].charAt(carried[n]) - 'a');
+      for (int k = 0; k < 6; k++) if (rather(ORDERS[k], pairs[n]) != carried[n]) bits &= ~(1 << k);
+    }
+    for (int n = 0; n < 3; n++) {
+      int[] alike = new int[2];
+      for (int k = 0; k < 6; k++) if ((bits >> k & 1) == 1) alike[rather(ORDERS[k], pairs[n])]++;
+      if (Math.max(alike[0], alike[1]) < least) {
+        least = Math.max(alike[0], alike[1]);
+        ask = n;
+      }
+    }
+    String told = String.join(" ", pairs) + " seen " + carried[0] + carried[1] + carried[2];
+    due("26 would(0), " + told, x.would(0), bits);
+    due("27 ask(0), " + told, x.ask(0), ask);
+  }
+
+  private static int rather(String order, String pair) {
+    return order.indexOf(pair.charAt(0)) < order.indexOf(pair.charAt(1)) ? 0 : 1;
   }
 
   // ---- promises 28 and 29

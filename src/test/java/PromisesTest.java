@@ -626,14 +626,19 @@ public final class PromisesTest {
     return 31 * (31 * h + x.evenings(7, 0)) + x.evenings(7, 1);
   }
 
-  private static void digest() {
+  private static LinenHouse digested() {
     LinenHouse x = house("s1abc;s3bca;b2cab;b4cba;d5acb;d5bac;d4cab;d3abc", "ab1bc2ca1ba2ac1cb2ab2bc1ac2ca1");
     x.fold(1, 4, 0);
     x.fold(7, 4, 4);
     x.jar(2);
     x.seen(0, 0);
-    due("37 digest()", x.digest(), digestOf(x));
-    due("37 digest(), again", x.digest(), digestOf(x));
+    return x;
+  }
+
+  private static void digest() {
+    LinenHouse x = digested();
+    due("37 digest()", x.digest(), digestOf(digested()));
+    due("37 digest(), again", x.digest(), digestOf(digested()));
     LinenHouse empty = new LinenHouse();
     due("37 digest(), empty", empty.digest(), digestOf(empty));
     long before = empty.digest();
