@@ -188,7 +188,9 @@ public final class DocumentTest {
     vote(x, 0, 1, 1, 1, 0);
     vote(x, 1, 1, 1, 0, 0);
     vote(x, 2, 2, 1, 0, 0);
-    for (String wrongText : new String[] {"aa1", "ad1", "ab0", "ab3", "ab", "1ab", "ab1;bc1"}) due("count(1) of " + wrongText, house("", wrongText).count(1), 0);
+    for (String wrongText : new String[] {"aa1", "ad1", "ab0", "ab3", "ab", "1ab", "ab1;bc1"}) {
+      due("count(1) of " + wrongText, house("", wrongText).count(1), 0);
+    }
     said("""
         The FAULT of a text is the place of the first byte with which it cannot go on (an empty one is well; of one that is not ended, its end), here also of
         a letter that is told again, of the first byte of a ninth.""");
